@@ -34,6 +34,13 @@ public final class FaceTest {
             }
         }
         due.is("missing: " + want, want.size(), 0);
+        for (Class<?> inner : BelievedOnce.class.getDeclaredClasses()) {
+            due.is(inner + " is private", Modifier.isPrivate(inner.getModifiers()), true);
+            due.is(inner + " is static", Modifier.isStatic(inner.getModifiers()), true);
+            for (Method m : inner.getDeclaredMethods()) {
+                due.is(inner + ": a method named " + m.getName(), names.contains(m.getName()), false);
+            }
+        }
         due.is("final", Modifier.isFinal(BelievedOnce.class.getModifiers()), true);
         Constructor<?>[] made = BelievedOnce.class.getDeclaredConstructors();
         due.is("constructors", made.length, 1);
