@@ -357,6 +357,8 @@ public final class ActTest {
         DUE.is("undo()", x.undo(), 39);
         DUE.is("undo()", x.undo(), 38);
         DUE.is("hours(1)", x.hours(1), 9999);
+        x.undo();
+        DUE.is("years(1)", x.years(1, 1), 9999);
     }
 
     /** By the seed 7: a fire of 3 in 2; nothing; a thief of 2 in 1 (where it burns), and he goes to 0. */

@@ -175,6 +175,8 @@ public final class TextTest {
         fault(1, "y:(((!!z=[1])))?1", -1);
         fault(1, "y:(((!!z=[[1]])))?1", 10);
         fault(1, "y:1,", 3);
+        fault(1, "y:z=1?[[[[[[1]]]]]]", -1);
+        fault(1, "y:z=1?[[[[[[[1]]]]]]]", 12);
     }
 
     private static void taken() {
