@@ -26,21 +26,9 @@ public final class ActTest {
         DUE.close("ActTest");
     }
 
-    private static void counts(BelievedOnce x, int... want) {
-        for (int i = 0; i < want.length; i++) {
-            DUE.is("count(" + i + ")", x.count(i), want[i]);
-        }
-    }
-
-    private static void statuses(String where, BelievedOnce x, int... want) {
-        for (int i = 0; i < 5; i++) {
-            DUE.is(where + ": status(" + i + ")", x.status(i), want[i]);
-        }
-    }
-
     private static void newObject() {
         BelievedOnce x = new BelievedOnce();
-        counts(x, 0, 0, 0, -1, 0, 2, 0, 0, 0);
+        DUE.counts("new", x, 0, 0, 0, -1, 0, 2, 0, 0, 0);
         DUE.is("count(9)", x.count(9), -1000000);
         DUE.is("count(-1)", x.count(-1), -1000000);
         DUE.noSuchSpot(x, 0, 0);
@@ -54,7 +42,7 @@ public final class ActTest {
         DUE.is("status(5)", x.status(5), -1);
         DUE.is("years", x.years(1, 5), -1);
         DUE.is("undo", x.undo(), -1);
-        statuses("new", x, 0, 0, 0, 0, 0);
+        DUE.statuses("new", x, 0, 0, 0, 0, 0);
     }
 
     private static void tellings() {
@@ -107,19 +95,7 @@ public final class ActTest {
         DUE.is("count(5)", x.count(5), 9);
         DUE.is("danger(0)", x.danger(0), true);
         DUE.is("count(5)", x.count(5), 0);
-        statuses("laws and danger", x, 0, 0, 0, 0, 0);
-    }
-
-    private static void sizes(String where, BelievedOnce x, int... want) {
-        for (int p = 0; p < want.length; p++) {
-            DUE.is(where + ": size in " + p, x.spot(p, 3), want[p]);
-        }
-    }
-
-    private static void worths(String where, BelievedOnce x, int... want) {
-        for (int p = 0; p < want.length; p++) {
-            DUE.is(where + ": worth of " + p, x.spot(p, 0), want[p]);
-        }
+        DUE.statuses("laws and danger", x, 0, 0, 0, 0, 0);
     }
 
     private static void troublesGrow() {
@@ -129,19 +105,19 @@ public final class ActTest {
         x.begin(2, 1, 8);
         x.begin(3, 2, 3);
         DUE.is("hours(1)", x.hours(1), 1);
-        sizes("hour 1", x, 3, 3, 9, 2);
-        worths("hour 1", x, 1, 46, 42, 6);
+        DUE.sizes("hour 1", x, 3, 3, 9, 2);
+        DUE.worths("hour 1", x, 1, 46, 42, 6);
         x.hours(1);
-        sizes("hour 2", x, 2, 2, 9, 1);
-        worths("hour 2", x, 0, 43, 33, 4);
+        DUE.sizes("hour 2", x, 2, 2, 9, 1);
+        DUE.worths("hour 2", x, 0, 43, 33, 4);
         x.hours(1);
-        sizes("hour 3", x, 1, 1, 9, 0);
-        worths("hour 3", x, 0, 41, 24, 3);
+        DUE.sizes("hour 3", x, 1, 1, 9, 0);
+        DUE.worths("hour 3", x, 0, 41, 24, 3);
         DUE.is("kind of none", x.spot(3, 2), -1);
         DUE.is("kind", x.spot(2, 2), 1);
         x.hours(3);
-        sizes("hour 6", x, 0, 0, 9, 0);
-        worths("hour 6", x, 0, 40, 0, 3);
+        DUE.sizes("hour 6", x, 0, 0, 9, 0);
+        DUE.worths("hour 6", x, 0, 40, 0, 3);
         DUE.is("LOSS", x.rule(5), 3 + 10 + 50 + 6);
     }
 
@@ -149,25 +125,25 @@ public final class ActTest {
         BelievedOnce x = Due.town("pw90;pw9;pw9;pw1;pw9;l;la1b2;la0b3;la0b4");
         x.begin(3, 0, 1);
         x.hours(2);
-        worths("ruin", x, 90, 9, 9, 0, 9);
+        DUE.worths("ruin", x, 90, 9, 9, 0, 9);
         DUE.is("over without WORTH", x.spot(3, 3), 0);
         x.begin(0, 0, 4);
         x.begin(4, 2, 1);
         x.hours(1);
-        sizes("a fire of 5 spreads, also where a flood ended, not to a ruin or farther", x, 5, 1, 0, 0, 1);
+        DUE.sizes("a fire of 5 spreads, also where a flood ended, not to a ruin or farther", x, 5, 1, 0, 0, 1);
         DUE.is("kind", x.spot(4, 2), 0);
-        worths("spreading takes nothing yet", x, 86, 9, 9, 0, 8);
+        DUE.worths("spreading takes nothing yet", x, 86, 9, 9, 0, 8);
         x = Due.town("pw90;pw90;pw90;l;lb2");
         x.begin(0, 1, 9);
         x.begin(1, 0, 3);
         x.begin(2, 2, 9);
         x.hours(1);
-        sizes("thieves, floods and fires of 4 do not spread", x, 8, 4, 8);
+        DUE.sizes("thieves, floods and fires of 4 do not spread", x, 8, 4, 8);
         x.cry();
         x.begin(1, 0, 4);
         x.begin(0, 2, 2);
         x.hours(1);
-        sizes("no spreading to where a TROUBLE is", x, 1, 5, 0);
+        DUE.sizes("no spreading to where a TROUBLE is", x, 1, 5, 0);
         DUE.is("kind stays", x.spot(0, 2), 2);
     }
 
@@ -198,9 +174,9 @@ public final class ActTest {
         x.begin(0, 1, 1);
         x.begin(1, 1, 1);
         x.hours(1);
-        sizes("at hour 23", x, 3, 3);
+        DUE.sizes("at hour 23", x, 3, 3);
         x.hours(1);
-        sizes("at hour 24, where there is no way", x, 3, 6);
+        DUE.sizes("at hour 24, where there is no way", x, 3, 6);
     }
 
     private static void lawArithmetic() {
@@ -234,12 +210,12 @@ public final class ActTest {
         DUE.is("walk(2) too far", x.walk(2), -1);
         DUE.is("walk(4)", x.walk(4), -1);
         DUE.is("walk(-1)", x.walk(-1), -1);
-        statuses("walks", x, 2, 0, 2, 0, 0);
+        DUE.statuses("walks", x, 2, 0, 2, 0, 0);
         DUE.is("walk(1)", x.walk(1), 1);
         DUE.is("walk(0)", x.walk(0), 0);
         DUE.is("walk(1) without LEGS", x.walk(1), -1);
         DUE.is("walk(2) without LANE, then LEGS", x.walk(2), -1);
-        statuses("walks", x, 2, 0, 3, 1, 0);
+        DUE.statuses("walks", x, 2, 0, 3, 1, 0);
         x.hours(1);
         DUE.is("LEGS are full again", x.rule(0), 2);
         DUE.is("walk(1)", x.walk(1), 1);
@@ -252,18 +228,18 @@ public final class ActTest {
         DUE.is("cry() at nothing", x.cry(), 0);
         DUE.is("CREDIT", x.rule(3), 0);
         DUE.is("cry() again", x.cry(), -1);
-        statuses("cries", x, 0, 0, 0, 1, 0);
+        DUE.statuses("cries", x, 0, 0, 0, 1, 0);
         x.heir();
         for (int p = 0; p < 4; p++) {
             DUE.is("begin", x.begin(p, p % 3, 9), p + 1);
         }
         DUE.is("cry()", x.cry(), 3);
-        sizes("behind a cry", x, 0, 0, 9, 0);
+        DUE.sizes("behind a cry", x, 0, 0, 9, 0);
         x = Due.town("se0;p;p;l");
         x.begin(0, 0, 1);
         x.begin(1, 0, 1);
         DUE.is("cry() with e0", x.cry(), 1);
-        sizes("behind it", x, 0, 1);
+        DUE.sizes("behind it", x, 0, 1);
     }
 
     private static void whispers() {
@@ -280,7 +256,7 @@ public final class ActTest {
         DUE.is("whisper() at nothing", x.whisper(), -1);
         x.begin(0, 2, 2);
         DUE.is("whisper() without CREDIT", x.whisper(), -1);
-        statuses("whispers", x, 0, 0, 2, 2, 0);
+        DUE.statuses("whispers", x, 0, 0, 2, 2, 0);
         x.heir();
         DUE.is("whisper() at a SIZE of 2", x.whisper(), 0);
         DUE.is("over", x.spot(0, 2), -1);
@@ -298,7 +274,7 @@ public final class ActTest {
         DUE.is("heir() at full CREDIT, then COINS", x.heir(), -1);
         x.cry();
         DUE.is("heir() for 4", x.heir(), -1);
-        statuses("heirs", x, 0, 0, 2, 1, 0);
+        DUE.statuses("heirs", x, 0, 0, 2, 1, 0);
         x.give(1);
         DUE.is("heir() for 5", x.heir(), 0);
     }
@@ -309,11 +285,11 @@ public final class ActTest {
         for (int[] r : refused) {
             DUE.is("begin " + r[0] + " " + r[1] + " " + r[2], x.begin(r[0], r[1], r[2]), -1);
         }
-        statuses("begin", x, 2, 4, 0, 0, 0);
+        DUE.statuses("begin", x, 2, 4, 0, 0, 0);
         DUE.is("begin(1, 2, 9)", x.begin(1, 2, 9), 1);
         DUE.is("begin(1, 2, 10)", x.begin(1, 2, 10), -1);
         DUE.is("begin(1, 0, 1)", x.begin(1, 0, 1), -1);
-        statuses("begin", x, 2, 5, 1, 0, 0);
+        DUE.statuses("begin", x, 2, 5, 1, 0, 0);
         DUE.is("KIND", x.spot(1, 2), 2);
         DUE.is("SIZE", x.spot(1, 3), 9);
         DUE.is("begin(0, 0, 1)", x.begin(0, 0, 1), 2);
@@ -329,7 +305,7 @@ public final class ActTest {
         }
         DUE.is("give(1) above 999", x.give(1), -1);
         DUE.is("give(51) above 999", x.give(51), -1);
-        statuses("give", x, 0, 3, 0, 1, 0);
+        DUE.statuses("give", x, 0, 3, 0, 1, 0);
         DUE.is("COINS", x.rule(2), 999);
         x.undo();
         DUE.is("give(50)", x.give(50), 999);
@@ -348,7 +324,7 @@ public final class ActTest {
         DUE.is("hours(39)", x.hours(39), 9999);
         DUE.is("hours(1)", x.hours(1), -1);
         DUE.is("years(1)", x.years(1, 1), -1);
-        statuses("hours", x, 0, 3, 0, 0, 2);
+        DUE.statuses("hours", x, 0, 3, 0, 0, 2);
         DUE.is("count(4)", x.count(4), 9999);
         Due.hold(x, "y:h=16?0-9;y:1");
         x.begin(0, 1, 5);
@@ -378,7 +354,7 @@ public final class ActTest {
         x.undo();
         DUE.is("the HOUR", x.count(4), 2);
         DUE.is("where he stands", x.rule(4), YEARS[1][2]);
-        statuses("years", x, 0, 0, 0, 0, 0);
+        DUE.statuses("years", x, 0, 0, 0, 0, 0);
         x = Due.town("p;p;l");
         x.danger(0);
         x.walk(1);
@@ -407,8 +383,8 @@ public final class ActTest {
         DUE.is("LOSS", x.rule(5), 4);
         DUE.is("LEGS", x.rule(0), 2);
         DUE.is("undo()", x.undo(), 2);
-        worths("undone", x, 50, 30, 20, 10);
-        sizes("undone", x, 4, 0, 0, 0);
+        DUE.worths("undone", x, 50, 30, 20, 10);
+        DUE.sizes("undone", x, 4, 0, 0, 0);
         DUE.is("LEGS", x.rule(0), 1);
         DUE.is("undo()", x.undo(), 1);
         DUE.is("where he stands", x.rule(4), 0);
@@ -477,8 +453,8 @@ public final class ActTest {
         for (int i = 0; i < 6; i++) {
             DUE.is("rule(" + i + ")", x.rule(i), rules[i]);
         }
-        worths("back", x, 35, 27, 20, 10);
-        sizes("back", x, 7, 0, 0, 0);
+        DUE.worths("back", x, 35, 27, 20, 10);
+        DUE.sizes("back", x, 7, 0, 0, 0);
         DUE.is("LOG", x.count(7), 3);
         DUE.is("log(0, 0)", x.log(0, 0), 8);
         DUE.is("log(2, 0)", x.log(2, 0), 4);
