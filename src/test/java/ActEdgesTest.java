@@ -310,8 +310,8 @@ public final class ActEdgesTest {
         Due.lay(x, "p;");
         String before = Due.told(x);
         int[] got = {x.hours(0), x.hours(61), x.walk(9), x.walk(3), x.whisper(), x.heir(), x.begin(9, 0, 1),
-            x.begin(1, 3, 1), x.begin(2, 0, 1), x.give(0), x.years(0, 1), x.years(61, 1), x.text(0), x.text(1), x.text(2),
-            x.lost(61), x.left(4, 1), x.cryAt(25, 0), x.call(41, 0), x.round(6, 0), x.seen(4, 1, 1, true),
+            x.begin(1, 3, 1), x.begin(2, 0, 1), x.give(0), x.years(0, 1), x.years(61, 1), x.text(0), x.text(1),
+            x.text(2), x.lost(61), x.left(4, 1), x.cryAt(25, 0), x.call(41, 0), x.round(6, 0), x.seen(4, 1, 1, true),
             x.seen(0, 21, 1, true), x.fits(999), x.ask(4), x.rests(0, 0, 0), x.odds(0, 7, 0, 0), x.shares(0, 1000),
             x.most(13)};
         for (int i = 0; i < got.length; i++) {
@@ -582,7 +582,7 @@ public final class ActEdgesTest {
     }
 
     private static void draws() {
-        DUE.says("a draw of how many PLACES, of 3, of 3 and 1; is it beside where he stands, he stands there then (for nothing)");
+        DUE.says("a draw of how many PLACES, of 3, of 3 and 1; .. he stands there then (for nothing)");
         DUE.says("64 bits, going round; x shifted right by 33, without sign");
         long[] seeds = {0, 1, -1, 7, Long.MIN_VALUE, Long.MAX_VALUE, 1L << 32, -(1L << 40), 123456789123L};
         for (int places = 2; places <= 8; places++) {

@@ -56,7 +56,7 @@ final class Due {
         is("the TAPE then", x.count(2), want >= 0 ? text.length() : 0);
     }
 
-    /** Each byte behind the head: those of whole end a TEXT, those of early leave it too short, others are its FAULT. */
+    /** Each byte behind the head: those of whole end a TEXT, those of early come too short, others are a FAULT. */
     void next(int sort, String head, String whole, String early) {
         for (char sign = 1; sign < 256; sign++) {
             int want = whole.indexOf(sign) >= 0 ? -1 : early.indexOf(sign) >= 0 ? head.length() + 1 : head.length();

@@ -80,7 +80,8 @@ public final class HourEdgesTest {
             }
         }
         x = Due.town("p;p;p;p;p;la4b1;la1b3");
-        int[][] want = {{0, 99, 99, 99, 99}, {99, 0, 99, 1, 1}, {99, 99, 0, 99, 99}, {99, 1, 99, 0, 2}, {99, 1, 99, 2, 0}};
+        int[][] want = {{0, 99, 99, 99, 99}, {99, 0, 99, 1, 1}, {99, 99, 0, 99, 99}, {99, 1, 99, 0, 2},
+            {99, 1, 99, 2, 0}};
         for (int from = 0; from < 5; from++) {
             for (int to = 0; to < 5; to++) {
                 DUE.is("steps(" + from + ", " + to + ")", x.steps(from, to), want[from][to]);
@@ -346,6 +347,10 @@ public final class HourEdgesTest {
         x.begin(2, 0, 4);
         x.hours(1);
         DUE.sizes("two beside it: one fire", x, 5, 1, 5);
+        x = hourOf("pw99;p;p;p;p;p;p;p;l;lb2;lb3;lb4;lb5;lb6;lb7", 0, 0, 4);
+        DUE.sizes("to all others", x, 5, 1, 1, 1, 1, 1, 1, 1);
+        x = hourOf("p;p;p;p;p;p;p;pw99;la7b0", 7, 0, 4);
+        DUE.sizes("from the last to the first", x, 1, 0, 0, 0, 0, 0, 0, 5);
     }
 
     private static void logRows() {

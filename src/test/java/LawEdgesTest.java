@@ -20,6 +20,7 @@ public final class LawEdgesTest {
         comparisons();
         firstThatHolds();
         fourLaws();
+        faultTakesNothing();
         whichHolds();
         letters();
         hoursOfTheDay();
@@ -288,6 +289,15 @@ public final class LawEdgesTest {
         hold("!2<2&!3<2");
         hold("3>2");
         hold("!2>2&!2>3");
+        String[] truths = {"2=2", "2<3", "3>2"};
+        for (String truth : truths) {
+            DUE.is("!" + truth, told("!" + truth), false);
+            hold("!!" + truth);
+            hold("1=1&" + truth);
+            hold(truth + "&1=1");
+            hold("1=2|" + truth);
+            DUE.is("1=2&" + truth, told("1=2&" + truth), false);
+        }
         DUE.says("CONDITION: TRUTHS with | between; TRUTH: UNITS with & between");
         hold("1=1|1=1&1=2");
         hold("1=2&1=1|1=1");
@@ -338,9 +348,26 @@ public final class LawEdgesTest {
         Due.lay(x, "p;p");
         DUE.is("text(0)", x.text(0), 2);
         DUE.is("law(3)", x.law(3), true);
+        Due.lay(x, "y:9");
+        DUE.is("fault(1) of a fifth LAW", x.fault(1), -1);
         x.begin(0, 2, 1);
         x.hours(1);
         DUE.is("the fourth is as it was", x.spot(0, 3), 4);
+    }
+
+    private static void faultTakesNothing() {
+        DUE.says("The FAULT of the TAPE as .. a LAW (1)");
+        BelievedOnce x = Due.town("p;p");
+        Due.lay(x, "y:5");
+        DUE.is("fault(1)", x.fault(1), -1);
+        DUE.is("LAWS", x.count(1), 0);
+        Due.lay(x, "y:z>0?4;");
+        DUE.is("fault(1)", x.fault(1), 8);
+        DUE.is("text(1)", x.text(1), -1);
+        Due.hold(x, "y:2");
+        x.begin(0, 2, 1);
+        x.hours(1);
+        DUE.is("SIZE by what was taken", x.spot(0, 3), 3);
     }
 
     private static void whichHolds() {
@@ -434,6 +461,14 @@ public final class LawEdgesTest {
         String many = "y:z=1?9" + ";y:z=2?9".repeat(27) + ";y:z=3?2" + ";y:1  ";
         DUE.fault(1, many, -1);
         DUE.is("SIZE", grown(many), 5);
+        DUE.says("At most six .. within one another (with as much as can stand ahead of each)");
+        StringBuilder waiting = new StringBuilder();
+        for (int i = 0; i < 6; i++) {
+            waiting.append("1=2|1=1&(");
+        }
+        waiting.append("1=2|1=1&1+2*3=7").append("))))))");
+        hold(waiting.toString());
+        hold("1=2|1=1&0+1*[0+1*[0+1*[0+1*[0+1*[0+1*z]]]]]=0+1*[0+1*[0+1*[0+1*[0+1*[0+1*1]]]]]");
         String deep = "y:[1+[1+[1+[1+[1+[z*2]]]]]]+[0-9]*[1-1/2*[2+3*[4-5*[6+7*[8]]]]]";
         DUE.is("3 and (5 + 6 - 9)", grown(deep), 5);
     }

@@ -344,8 +344,8 @@ public final class TownEdgesTest {
 
     private static void earlyEnds() {
         DUE.says("the length, if it ends too early, with fewer than two PLACES");
-        String[] early = {"", " ", "p", "p ", "s", "l", "sg1;l;p", "p;", "p;p;", "p;p ; ", "p;p;s;", "p;p;sg", "p;p;sg ",
-            "p;pw", "p;po ", "p;p;la", "p;p;la0b"};
+        String[] early = {"", " ", "p", "p ", "s", "l", "sg1;l;p", "p;", "p;p;", "p;p ; ", "p;p;s;", "p;p;sg",
+            "p;p;sg ", "p;pw", "p;po ", "p;p;la", "p;p;la0b"};
         for (String text : early) {
             DUE.fault(0, text, text.length());
         }
@@ -384,6 +384,35 @@ public final class TownEdgesTest {
         DUE.is("the TOWN stays", x.spot(1, 0), 20);
         DUE.is("its PLACES, too", x.count(0), 2);
         DUE.is("its LANE, too", x.steps(0, 1), 1);
+    }
+
+    /** Nothing of any TOWN ahead may be left, nor of one that was looked at alone. */
+    private static void thirdTown() {
+        String wide = "se4;pw99o9;pw99o9;pw99o9;pw99o9;l;la1b2;la2b3;la3b0";
+        String[] between = {wide, "p;p;p;l;lb2", wide};
+        BelievedOnce x = new BelievedOnce();
+        for (int i = 0; i < 4; i++) {
+            if (i < between.length) {
+                Due.lay(x, between[i]);
+                DUE.is("text(0)", x.text(0), i == 1 ? 3 : 4);
+            } else {
+                Due.lay(x, wide);
+                DUE.is("fault(0)", x.fault(0), -1);
+            }
+            Due.lay(x, "se0;p;p");
+            DUE.is("text(0)", x.text(0), 2);
+            DUE.is("SEEN NOW", x.most(5), 1);
+            DUE.is("COVER", x.cover(), 3);
+            DUE.is("ALL", x.most(11), 40);
+            DUE.is("PARTS", x.most(12), 2);
+            DUE.is("spot(0, 4)", x.spot(0, 4), 0);
+            DUE.is("spot(1, 4)", x.spot(1, 4), 0);
+            DUE.is("steps(0, 1)", x.steps(0, 1), 99);
+            DUE.is("shares(0, 10)", x.shares(0, 10), 5);
+            DUE.is("round(1, 0)", x.round(1, 0), -1);
+            DUE.is("call(1, 0)", x.call(1, 0), 20000);
+            DUE.is("fits(NONE)", x.fits(-1), 54);
+        }
     }
 
     private static BelievedOnce lived() {
@@ -430,6 +459,7 @@ public final class TownEdgesTest {
         DUE.is("fits(NONE)", x.fits(-1), 54);
         x.begin(1, 2, 3);
         DUE.is("lost(2): the LAW y:1 holds", x.lost(2), 7);
+        thirdTown();
         DUE.says("no IMAGE of this TOWN");
         x = lived();
         Due.lay(x, "sg3e0k7;pw9o3;pw8;p;la1b0;l;la2b1");
