@@ -139,6 +139,12 @@ public final class ActEdgesTest {
             DUE.is("KIND", x.spot(0, 2), left[size - 1] == 0 ? -1 : 1);
             DUE.is("CREDIT 1 less", x.rule(3), 2);
         }
+        BelievedOnce there = Due.town("p;p;l");
+        there.begin(0, 1, 9);
+        there.begin(1, 1, 5);
+        there.walk(1);
+        DUE.is("whisper() where he walked", there.whisper(), 2);
+        DUE.sizes("the other stays", there, 9, 2);
         DUE.says("no TROUBLE where he stands (2)");
         BelievedOnce x = Due.town("p;p;l");
         x.begin(1, 1, 5);
@@ -582,8 +588,7 @@ public final class ActEdgesTest {
     }
 
     private static void draws() {
-        DUE.says("a draw of how many PLACES, of 3, of 3 and 1; .. he stands there then (for nothing)");
-        DUE.says("64 bits, going round; x shifted right by 33, without sign");
+        DUE.says("a draw of j: (x shifted right by 33, without sign) modulo j");
         long[] seeds = {0, 1, -1, 7, Long.MIN_VALUE, Long.MAX_VALUE, 1L << 32, -(1L << 40), 123456789123L};
         for (int places = 2; places <= 8; places++) {
             for (int danger = 0; danger <= 9; danger++) {

@@ -309,8 +309,8 @@ public final class AskEdgesTest {
         DUE.is("call(2, 1): 50,000 is less than 50,015", x.call(2, 1), 1);
         x = Due.town("pw49o1" + ";pw50o9".repeat(7));
         DUE.is("call(2, 1): 50,000 is more than 49,984", x.call(2, 1), 254);
-        x = Due.town("pw1;pw9");
-        x.begin(0, 2, 1);
+        x = Due.town("pw9;pw9");
+        x.begin(0, 2, 9);
         x.hours(1);
         DUE.is("call(1, 1): a ruin, when none is left", x.call(1, 1), 3);
         DUE.is("call(1, 0)", x.call(1, 0), 4500);
@@ -525,6 +525,7 @@ public final class AskEdgesTest {
         Due.hold(x, "y:0");
         x.seen(0, 1, 5, false);
         DUE.is("15 leave nothing behind 1, more later", x.ask(0), 1);
+        DUE.is("27 leave nothing behind 1, more later", Due.town("pw1;pw99;l").ask(0), 1);
         x = Due.town("pw99;pw99");
         x.seen(0, 1, 99, false);
         DUE.is("of the other PLACE", x.ask(1), 1);
@@ -682,6 +683,9 @@ public final class AskEdgesTest {
         DUE.is("shares(0, 7)", x.shares(0, 7), 1);
         DUE.is("shares(1, 10)", x.shares(1, 10), 2);
         DUE.is("shares(2, 999)", x.shares(2, 999), 570);
+        x.begin(2, 2, 1);
+        x.hours(1);
+        DUE.is("shares(2, 6) by WORTH as now", x.shares(2, 6), 3);
         for (int p = 0; p < 3; p++) {
             x.begin(p, 2, 9);
         }
@@ -704,13 +708,24 @@ public final class AskEdgesTest {
         DUE.is("most(0)", Due.town("pw8;pw9;pw9;pw1").most(0), 1);
         DUE.is("most(0) of alike", Due.town("p;p;p").most(0), 0);
         DUE.is("most(0), the last", Due.town("pw8;pw9;pw10").most(0), 2);
+        BelievedOnce x = Due.town("pw8;pw9;pw10");
+        x.begin(2, 2, 2);
+        x.hours(1);
+        DUE.is("most(0) by WORTH as now", x.most(0), 1);
+        x.begin(1, 2, 1);
+        x.hours(1);
+        DUE.is("most(0), now alike", x.most(0), 0);
         DUE.says("LIKELIEST: with most ODDS");
         DUE.is("most(1)", Due.town("po8;po9;po9;po1").most(1), 1);
         DUE.is("most(1) of alike", Due.town("po0;po0").most(1), 0);
         DUE.is("most(1), the last", Due.town("po0;po0;po1").most(1), 2);
         DUE.says("BUSIEST: with most LANES, each once");
         DUE.is("most(2) of none", Due.town("p;p;p").most(2), 0);
-        DUE.is("most(2)", Due.town("p;p;p;p;la1b2;la2b3;la3b1").most(2), 1);
+        for (int e = 0; e <= 4; e++) {
+            String sees = "se" + e + ";";
+            DUE.is("most(2) with e" + e, Due.town(sees + "p;p;p;p;la1b2;la2b3;la3b1").most(2), 1);
+            DUE.is("most(2) with e" + e, Due.town(sees + "p;p;p;p;l;la1b2;la2b3;la2b0").most(2), 2);
+        }
         DUE.is("most(2), each once", Due.town("p;p;p;p;l;la1b0;l;la2b3;la3b1").most(2), 1);
         DUE.is("most(2), each once", Due.town("p;p;p;p;p;l;l;l;la2b3;la4b3").most(2), 3);
         DUE.says("NONE: no TOWN, no such what");

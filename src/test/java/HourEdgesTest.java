@@ -14,6 +14,7 @@ public final class HourEdgesTest {
         thiefGrowth();
         floodGrowth();
         taking();
+        mostLoss();
         growing();
         sizesAsItBegan();
         mostAndLeast();
@@ -218,6 +219,27 @@ public final class HourEdgesTest {
         DUE.is("most(9)", x.most(9), 7);
     }
 
+    /** WORTH is 8 times 99 at most and never more again, so that LOSS can't come to 9,999. */
+    private static void mostLoss() {
+        DUE.says("LOSS more by that (0 at first, 9,999 at most)");
+        BelievedOnce x = Due.town("pw99" + ";pw99".repeat(7));
+        Due.hold(x, "y:0");
+        for (int p = 0; p < 8; p++) {
+            x.begin(p, 1 + p % 2, 9);
+        }
+        DUE.is("lost(60)", x.lost(60), 792);
+        DUE.is("lost(10)", x.lost(10), 720);
+        x.hours(10);
+        DUE.is("LOSS", x.rule(5), 720);
+        DUE.is("lost(60)", x.lost(60), 72);
+        x.hours(60);
+        DUE.is("LOSS", x.rule(5), 792);
+        DUE.is("ALL", x.most(11), 0);
+        DUE.is("RUINS", x.most(9), 255);
+        DUE.is("log(59, 0)", x.log(59, 0), 72);
+        DUE.is("log(58, 0)", x.log(58, 0), 0);
+    }
+
     private static void growing() {
         DUE.says("by WORTH behind (i)");
         BelievedOnce x = Due.town("pw5;pw6");
@@ -294,6 +316,10 @@ public final class HourEdgesTest {
         x.hours(1);
         DUE.sizes("6 becomes 5", x, 5, 1, 0, 1);
         DUE.says("in each PLACE beside it without a TROUBLE");
+        for (int e = 0; e <= 4; e++) {
+            String row = "se" + e + ";pw99;p;p;l;la1b2";
+            DUE.sizes("one LANE far, with e" + e, hourOf(row, 0, 0, 4), 5, 1, 0);
+        }
         x = Due.town(star);
         x.begin(0, 0, 8);
         x.begin(1, 2, 2);

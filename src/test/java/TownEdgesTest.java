@@ -411,6 +411,13 @@ public final class TownEdgesTest {
             DUE.is("shares(0, 10)", x.shares(0, 10), 5);
             DUE.is("round(1, 0)", x.round(1, 0), -1);
             DUE.is("call(1, 0)", x.call(1, 0), 20000);
+            DUE.is("call(2, 0)", x.call(2, 0), 20000);
+            DUE.is("call(1, 1)", x.call(1, 1), 3);
+            DUE.is("DEAREST", x.most(0), 0);
+            DUE.is("LIKELIEST", x.most(1), 0);
+            DUE.is("BUSIEST", x.most(2), 0);
+            DUE.is("FARTHEST", x.most(3), 1);
+            DUE.is("RUINS", x.most(9), 0);
             DUE.is("fits(NONE)", x.fits(-1), 54);
         }
     }
