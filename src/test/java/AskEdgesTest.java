@@ -526,6 +526,8 @@ public final class AskEdgesTest {
         x.seen(0, 1, 5, false);
         DUE.is("15 leave nothing behind 1, more later", x.ask(0), 1);
         DUE.is("27 leave nothing behind 1, more later", Due.town("pw1;pw99;l").ask(0), 1);
+        DUE.is("of the last of eight", Due.town("p;p;p;p;p;p;p;p").ask(7), 1);
+        evenlyAsked();
         x = Due.town("pw99;pw99");
         x.seen(0, 1, 99, false);
         DUE.is("of the other PLACE", x.ask(1), 1);
@@ -537,6 +539,16 @@ public final class AskEdgesTest {
         x.seen(0, 1, 99, true);
         DUE.is("ask(0) when nothing fits", x.ask(0), -1);
         DUE.is("ask(1) when nothing fits", x.ask(1), -1);
+    }
+
+    /** SIZES 1 and 2 fit: behind 1 the six in PLACE 1 leave 0 as it was, behind 2 the six in 0 leave nothing. */
+    private static void evenlyAsked() {
+        BelievedOnce x = Due.town("pw3;pw99;l");
+        Due.hold(x, "y:k=0&d=1?9;y:d=0?1");
+        x.seen(0, 1, 1, true);
+        x.seen(1, 1, 97, true);
+        DUE.is("fits(NONE)", x.fits(-1), 12);
+        DUE.is("six behind 1, six behind 2", x.ask(0), 1);
     }
 
     /** When three TROUBLES of 1 in PLACE 0 are left, one of each KIND. */
