@@ -18,6 +18,7 @@ public final class BelievedOnce {
     private static final int NO_WAY = 99;
     private static final int FULL_CREDIT = 3;
     private static final int HEIR_PRICE = 5;
+    private static final int WHISPERED = 3;
     private static final int FIRE = 0;
     private static final int THIEF = 1;
     private static final int FLOOD = 2;
@@ -112,7 +113,7 @@ public final class BelievedOnce {
         }
         boolean whole = sort == 0
             ? townReader.readTown(tape, draft)
-            : LawReader.readLaw(tape, laws[lawsTold]);
+            : LawReader.readLaw(tape, nextLaw());
         return whole ? NONE : tape.at;
     }
 
@@ -139,12 +140,17 @@ public final class BelievedOnce {
     }
 
     private int takeLaw() {
-        if (lawsTold >= MOST_LAWS || !LawReader.readLaw(tape, laws[lawsTold])) {
+        if (lawsTold >= MOST_LAWS || !LawReader.readLaw(tape, nextLaw())) {
             return NONE;
         }
         tape.length = 0;
         lawsTold++;
         return lawsTold - 1;
+    }
+
+    /** Where the next LAW is read. */
+    private Law nextLaw() {
+        return laws[Math.min(lawsTold, MOST_LAWS)];
     }
 
     public int rule(int what) {
@@ -268,7 +274,7 @@ public final class BelievedOnce {
         if (noTown()) {
             return refuse(0);
         }
-        if (night.size[night.at] < 1) {
+        if (night.sizeIn(night.at) < 1) {
             return refuse(2);
         }
         if (night.credit < 1) {
@@ -276,8 +282,8 @@ public final class BelievedOnce {
         }
         past.keep(night);
         night.credit--;
-        night.size[night.at] = Math.max(0, night.size[night.at] - 3);
-        return night.size[night.at];
+        night.lessen(night.at, WHISPERED);
+        return night.sizeIn(night.at);
     }
 
     public int heir() {
@@ -463,7 +469,7 @@ public final class BelievedOnce {
     }
 
     public int round(int m, int what) {
-        if (noTown() || m < 1 || m > 5 || what < 0 || what > 1 || town.beside[night.at] == 0) {
+        if (noTown() || m < 1 || m > 5 || what < 0 || what > 1 || town.besideOf(night.at) == 0) {
             return NONE;
         }
         stroll.find(town, night, m);
@@ -591,7 +597,7 @@ public final class BelievedOnce {
             case 2: return topPlace(2);
             case 3: return topPlace(3);
             case 4: return night.troubles();
-            case 5: return town.view[night.at];
+            case 5: return town.viewOf(night.at);
             case 6: return night.troublesOf(FIRE);
             case 7: return night.troublesOf(THIEF);
             case 8: return night.troublesOf(FLOOD);
@@ -742,11 +748,19 @@ public final class BelievedOnce {
         }
 
         int way(int from, int to) {
-            return ways[from * MOST_PLACES + to];
+            return has(from) && has(to) ? ways[from * MOST_PLACES + to] : NO_WAY;
+        }
+
+        int besideOf(int place) {
+            return has(place) ? beside[place] : 0;
+        }
+
+        int viewOf(int place) {
+            return has(place) ? view[place] : 0;
         }
 
         boolean joined(int from, int to) {
-            return (beside[from] >> to & 1) == 1;
+            return has(to) && (besideOf(from) >> to & 1) == 1;
         }
 
         void join(int one, int other) {
@@ -1312,16 +1326,34 @@ public final class BelievedOnce {
             return sum;
         }
 
+        private static boolean isIn(int place) {
+            return place >= 0 && place < MOST_PLACES;
+        }
+
+        int worthIn(int place) {
+            return isIn(place) ? worth[place] : 0;
+        }
+
+        int sizeIn(int place) {
+            return isIn(place) ? size[place] : 0;
+        }
+
         /** A TROUBLE that is there already stays as it is. */
         void startTrouble(int place, int sort, int big) {
-            if (size[place] == 0) {
+            if (isIn(place) && size[place] == 0) {
                 kind[place] = sort;
                 size[place] = big;
             }
         }
 
+        void lessen(int place, int by) {
+            if (isIn(place)) {
+                size[place] = Math.max(0, size[place] - by);
+            }
+        }
+
         int hushSeen(Town town) {
-            int over = troubles() & town.view[at];
+            int over = troubles() & town.viewOf(at);
             for (int p = 0; p < MOST_PLACES; p++) {
                 if ((over >> p & 1) == 1) {
                     size[p] = 0;
@@ -1516,7 +1548,7 @@ public final class BelievedOnce {
         void find(Town town, Night night, int walks) {
             bestRow = NONE;
             mostWorth = NONE;
-            goOn(town, night, night.at, walks, town.view[night.at], 0);
+            goOn(town, night, night.at, walks, town.viewOf(night.at), 0);
         }
 
         /** Rows come rising, so that the first of several stays. */
@@ -1611,7 +1643,7 @@ public final class BelievedOnce {
 
         private boolean holdsBehind(int hour) {
             for (int i = 0; i < known; i++) {
-                if (behind[i] == hour && trial.worth[place[i]] >= mark[i] != orMore[i]) {
+                if (behind[i] == hour && trial.worthIn(place[i]) >= mark[i] != orMore[i]) {
                     return false;
                 }
             }
@@ -1634,7 +1666,10 @@ public final class BelievedOnce {
             startSort(town, sort);
             for (int hour = 1; hour <= LONGEST_ASK; hour++) {
                 trial.passHour(town, law);
-                tally[hour * WORTHS + trial.worth[spot]]++;
+                int left = trial.worthIn(spot);
+                if (left >= 0 && left < WORTHS) {
+                    tally[hour * WORTHS + left]++;
+                }
             }
         }
 
