@@ -171,6 +171,12 @@ public final class TownEdgesTest {
         DUE.says("a 13th l at it");
         DUE.fault(0, "p;p" + ";l".repeat(12) + "; l", 29);
         DUE.fault(0, "l;".repeat(12) + "p;lx", 26);
+        DUE.says("a second s, a ninth p, a 13th l .. at it");
+        String full = "s;" + EIGHT + "l;".repeat(12);
+        DUE.fault(0, full.substring(0, 41), -1);
+        DUE.fault(0, full + "s", 42);
+        DUE.fault(0, full + "p", 42);
+        DUE.fault(0, full + " l", 43);
     }
 
     private static void usualItems() {
